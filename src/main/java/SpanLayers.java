@@ -29,8 +29,11 @@ public final class SpanLayers {
 
     private static final int BY_LOW = 0, BY_HIGH = 1, BY_LENGTH = 2, BY_WEIGHT = 3, ORDERS = 5;
     private static final int DEPTH = 0, LOAD = 1;
-    private static final int SHIFT = 0, GROW = 1, CLIP = 2, MIRROR = 3, TIMES = 4, HEAP = 5;
-    private static final int NO_WORD = -1, LOW = 0, HIGH = 1, WEIGHT = 2, LENGTH = 3, NUMBER = 4, LAYER = 5;
+    // The numbers of words are their places here.
+    private static final String WORDS = "low high weight length number layer ";
+    private static final int NO_WORD = -1, LOW = 0, HIGH = 1, WEIGHT = 2, LENGTH = 3, NUMBER = 4;
+    private static final String KINDS = "shift grow clip mirror times heap ";
+    private static final int SHIFT = 0, GROW = 1, CLIP = 2, MIRROR = 3, TIMES = 4;
     private static final int END_TO_END = 1, OPPOSITE = 12;
 
     private final Index index = new Index();
@@ -1089,19 +1092,34 @@ public final class SpanLayers {
             return value;
         }
 
-        void passWord() {
+        /** Reads one of the words, each of which has a blank behind it: which one it is. */
+        int readOneOf(String words) {
+            int from = at;
             for (int k = 0; k < TAPE_SIZE && letter() >= 'a' && letter() <= 'z'; k++) {
                 at++;
             }
+            int word = 0;
+            int start = 0;
+            for (int k = 0; k < words.length(); k++) {
+                if (words.charAt(k) == ' ') {
+                    if (isSame(from, words, start, k)) {
+                        return word;
+                    }
+                    word++;
+                    start = k + 1;
+                }
+            }
+            fail(from);
+            return NO_WORD;
         }
 
-        /** Whether what was read from there on is just this. */
-        boolean isWord(int from, String word) {
-            if (from < 0 || at > TAPE_SIZE || at - from != word.length()) {
+        /** Whether what was read from there on is just this run of a text. */
+        private boolean isSame(int from, String text, int start, int end) {
+            if (from < 0 || at > TAPE_SIZE || at - from != end - start) {
                 return false;
             }
-            for (int k = 0; k < word.length(); k++) {
-                if (bytes[from + k] != word.charAt(k)) {
+            for (int k = 0; k < end - start; k++) {
+                if (bytes[from + k] != text.charAt(start + k)) {
                     return false;
                 }
             }
@@ -1150,7 +1168,7 @@ public final class SpanLayers {
         }
 
         private static int readTest(Tape tape, Index index) {
-            int word = readWord(tape);
+            int word = tape.readOneOf(WORDS);
             int sign = readSign(tape);
             int value = tape.readSigned(FIGURES);
             int bits = 0;
@@ -1161,22 +1179,6 @@ public final class SpanLayers {
                 }
             }
             return bits;
-        }
-
-        private static int readWord(Tape tape) {
-            int from = tape.at;
-            tape.passWord();
-            int word = tape.isWord(from, "low") ? LOW
-                : tape.isWord(from, "high") ? HIGH
-                : tape.isWord(from, "weight") ? WEIGHT
-                : tape.isWord(from, "length") ? LENGTH
-                : tape.isWord(from, "number") ? NUMBER
-                : tape.isWord(from, "layer") ? LAYER
-                : NO_WORD;
-            if (word == NO_WORD) {
-                tape.fail(from);
-            }
-            return word;
         }
 
         private static int readSign(Tape tape) {
@@ -1218,7 +1220,7 @@ public final class SpanLayers {
         }
 
         private void readStep(Tape tape, int k) {
-            kinds[k] = readKind(tape);
+            kinds[k] = tape.readOneOf(KINDS);
             switch (kinds[k]) {
                 case SHIFT:
                     tape.expect(' ');
@@ -1238,22 +1240,6 @@ public final class SpanLayers {
                 default:
                     break;
             }
-        }
-
-        private static int readKind(Tape tape) {
-            int from = tape.at;
-            tape.passWord();
-            int kind = tape.isWord(from, "shift") ? SHIFT
-                : tape.isWord(from, "grow") ? GROW
-                : tape.isWord(from, "clip") ? CLIP
-                : tape.isWord(from, "mirror") ? MIRROR
-                : tape.isWord(from, "times") ? TIMES
-                : tape.isWord(from, "heap") ? HEAP
-                : NO_WORD;
-            if (kind == NO_WORD) {
-                tape.fail(from);
-            }
-            return kind;
         }
 
         int changeAll(Index index, int set) {

@@ -108,7 +108,8 @@ public final class LanguageTest {
             for (Field field : one.getDeclaredFields()) {
                 boolean isStatic = Modifier.isStatic(field.getModifiers());
                 fields += isStatic ? 0 : 1;
-                due(!isStatic || Modifier.isFinal(field.getModifiers()) && field.getType() == int.class, "a constant: " + field);
+                due(!isStatic || Modifier.isFinal(field.getModifiers())
+                    && (field.getType() == int.class || field.getType() == String.class), "a constant: " + field);
             }
             due(fields <= 20, "twenty fields: " + one);
             for (Method method : one.getDeclaredMethods()) {

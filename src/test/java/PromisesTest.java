@@ -234,6 +234,11 @@ public final class PromisesTest {
             put(3, 45, 50, 1) 1
             of(3, 4) 2
             of(3, 5) 3
+            # one of number 0 is counted as any other
+            put(0, 46, 47, 1) 1
+            of(3, 6) 1
+            of(0, 5) 3
+            of(1, 6) 4
             """);
     }
 
@@ -589,6 +594,14 @@ public final class PromisesTest {
             add(400, 400, 1) 2
             covered(4) 598
             covered(3) 997
+            # one place is a hole, no place is none; what was more before is forgotten
+            put(2, 2, 3, 1) 1
+            put(1, 4, 4, 1) 1
+            covered(0) 4
+            covered(1) 2
+            covered(2) 1
+            covered(3) 1
+            covered(4) 1
             """);
         run(19, five + """
             piece(0, 0) 10
@@ -821,7 +834,7 @@ public final class PromisesTest {
         String[][] faults = {
             {"l", "0"}, {"lo", "0"}, {"low", "3"}, {"lowe<5", "0"}, {"low<", "4"}, {"low<-", "5"}, {"low<--1", "5"},
             {"low<1000", "7"}, {"low<5 ", "5"}, {"low <5", "3"}, {" low<5", "0"}, {"low<=5", "4"}, {"low!5", "3"},
-            {"Low<5", "0"}, {"low<x", "4"}, {"low<5&", "6"}, {"low<5|", "6"}, {"low<5&&low<5", "6"},
+            {"Low<5", "0"}, {"lowz<5", "0"}, {"xow<5", "0"}, {"low{<5", "3"}, {"low`<5", "3"}, {"low<x", "4"}, {"low<5&", "6"}, {"low<5|", "6"}, {"low<5&&low<5", "6"},
             {"low<5|x=1", "6"}, {"low<5|lo", "6"}, {"!", "1"}, {"!!low<5", "1"}, {"low<5!", "5"}, {"(", "1"},
             {"()", "1"}, {")", "0"}, {"(low<5", "6"}, {"low<5)", "5"}, {"(low<5))", "7"}, {"(low<5", "6"},
             {"((((((low<5))))))", "5"}, {"(((((low<5))))", "14"}, {"!(!(!(!(!(!(low<5))))))", "11"},
@@ -834,6 +847,7 @@ public final class PromisesTest {
             run(31, four + "type " + one[0] + "\ncull() " + answer + "\ntold(5) 0\ntold(0) 4\n");
         }
         run(29, "pick() -100\nfeed(127) 1\npick() -100\n");
+        run(29, "add(0, 0, 1) 0\nadd(999, 999, 1) 1\ntype !low=5\npick() 3\n");
         run(30, "many() -100\n");
         run(31, "cull() -100\n");
         fullConditions(four);
@@ -1061,6 +1075,12 @@ public final class PromisesTest {
             told(2) 3
             told(7) 3
             told(8) 1
+            drop(1) 2
+            drop(2) 1
+            told(2) 1
+            told(3) 4
+            told(4) 11
+            told(7) 1
             """);
     }
 
@@ -1070,8 +1090,10 @@ public final class PromisesTest {
             get(0, 2) 0
             get(0, 3) -2000000000
             set(0, 2, 9) 1
+            set(0, 0, 8) 1
             list(0, 3) 1
             get(0, 2) 0
+            get(0, 0) 0
             list(0, 40) 1
             get(0, 39) 0
             list(0, 41) -2
