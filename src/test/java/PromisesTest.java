@@ -1,15 +1,8 @@
 import java.lang.reflect.Method;
-import java.util.regex.Matcher;
-import java.util.regex.Pattern;
 
-/**
- * Each promise by hand. A run is a text of rows "call(arguments) answer" on a new object;
- * "type text" feeds a text's bytes, "# .." is a remark.
- */
+/** Each promise by hand, in rows as Runs reads them. */
 public final class PromisesTest {
-    private static final Pattern ROW = Pattern.compile("(\\w+)\\(([^)]*)\\) (-?\\d+)");
-    private static int wrong = 0;
-    private static int rows = 0;
+    private static final Runs RUNS = new Runs();
 
     public static void main(String[] args) throws Exception {
         newObject();
@@ -30,50 +23,14 @@ public final class PromisesTest {
         lists();
         images();
         extremes();
-        System.out.println(wrong == 0 ? rows + " answers are as due" : wrong + " answers are not as due");
-        if (wrong != 0) System.exit(1);
+        RUNS.end();
     }
 
-    private static void run(int promise, String script) throws Exception {
-        SpanLayers x = new SpanLayers();
-        for (String row : script.split("\n")) {
-            if (row.startsWith("type ")) type(promise, x, row.substring(5));
-            else if (!row.isBlank() && !row.startsWith("#")) check(promise, x, row.strip());
-        }
+    private static void run(int promise, String script) {
+        RUNS.run("promise " + promise, script);
     }
 
-    private static void type(int promise, SpanLayers x, String text) {
-        for (char c : text.toCharArray()) {
-            if (x.feed(c) < 0) report(promise, "feed of " + text, -1, 1);
-        }
-    }
-
-    private static void check(int promise, SpanLayers x, String row) throws Exception {
-        Matcher m = ROW.matcher(row);
-        if (!m.matches()) throw new IllegalStateException("no row: " + row);
-        String[] words = m.group(2).isBlank() ? new String[0] : m.group(2).split(",");
-        Object[] values = new Object[words.length];
-        for (int k = 0; k < words.length; k++) values[k] = Integer.parseInt(words[k].strip());
-        int got = (Integer) method(m.group(1)).invoke(x, values);
-        report(promise, row, got, Integer.parseInt(m.group(3)));
-    }
-
-    private static Method method(String name) {
-        for (Method m : SpanLayers.class.getDeclaredMethods()) {
-            if (m.getName().equals(name)) return m;
-        }
-        throw new IllegalStateException("no method: " + name);
-    }
-
-    private static void report(int promise, String row, int got, int want) {
-        rows++;
-        if (got != want) {
-            wrong++;
-            System.out.println("promise " + promise + ": " + row + " answered " + got + ", due is " + want);
-        }
-    }
-
-    private static void newObject() throws Exception {
+    private static void newObject() {
         run(1, """
             told(0) 0
             told(1) 0
@@ -116,7 +73,7 @@ public final class PromisesTest {
             """);
     }
 
-    private static void spans() throws Exception {
+    private static void spans() {
         run(2, """
             add(0, 0, -99) 0
             add(999, 999, 99) 1
@@ -242,7 +199,7 @@ public final class PromisesTest {
             """);
     }
 
-    private static void relations() throws Exception {
+    private static void relations() {
         run(6, """
             put(0, 10, 20, 1) 0
             put(1, 22, 30, 1) 0
@@ -356,7 +313,7 @@ public final class PromisesTest {
             """);
     }
 
-    private static void orders() throws Exception {
+    private static void orders() {
         String six = """
             add(5, 9, 3) 0
             add(5, 9, 3) 1
@@ -434,7 +391,7 @@ public final class PromisesTest {
             """);
     }
 
-    private static void cursors() throws Exception {
+    private static void cursors() {
         run(14, """
             open(0, 0) 1
             open(2, 4) 2
@@ -561,7 +518,7 @@ public final class PromisesTest {
             """);
     }
 
-    private static void coverage() throws Exception {
+    private static void coverage() {
         String five = """
             add(10, 19, 1) 0
             add(20, 24, 1) 1
@@ -630,7 +587,7 @@ public final class PromisesTest {
             """);
     }
 
-    private static void depths() throws Exception {
+    private static void depths() {
         String four = """
             add(10, 20, 5) 0
             add(15, 30, -8) 1
@@ -691,7 +648,7 @@ public final class PromisesTest {
             """);
     }
 
-    private static void choices() throws Exception {
+    private static void choices() {
         String six = """
             add(10, 20, 4) 0
             add(15, 25, 9) 1
@@ -750,7 +707,7 @@ public final class PromisesTest {
             """);
     }
 
-    private static void groups() throws Exception {
+    private static void groups() {
         run(26, """
             add(10, 20, 4) 0
             add(15, 25, 9) 1
@@ -777,7 +734,7 @@ public final class PromisesTest {
             """);
     }
 
-    private static void tape() throws Exception {
+    private static void tape() {
         run(27, """
             feed(0) -2
             feed(-1) -2
@@ -806,7 +763,7 @@ public final class PromisesTest {
             """);
     }
 
-    private static void conditions() throws Exception {
+    private static void conditions() {
         String four = """
             add(5, 9, 3) 0
             add(0, 20, -10) 1
@@ -853,7 +810,7 @@ public final class PromisesTest {
         fullConditions(four);
     }
 
-    private static void fullConditions(String four) throws Exception {
+    private static void fullConditions(String four) {
         // Just 80 bytes that hold, just 80 that end too early, and one byte too much for a number at the very end.
         String good = "low<99" + "&low<99".repeat(9) + "&number>-0";
         run(29, four + "type " + good + "0\ntold(5) 80\npick() 6\n");
@@ -871,7 +828,7 @@ public final class PromisesTest {
             + "type layer=0|layer=2\ncull() 2\nmeet(0, 999) 10\nof(1, 4) 0\nof(3, 4) 1\n");
     }
 
-    private static void changes() throws Exception {
+    private static void changes() {
         String start = "add(100, 199, 10) 0\nadd(500, 509, -3) 1\nadd(990, 999, 1) 2\nput(29, 0, 4, 0) 0\n";
         // of one span: low, high, weight behind the change
         String[][] good = {
@@ -940,7 +897,7 @@ public final class PromisesTest {
             """);
     }
 
-    private static void changeFaults(String start) throws Exception {
+    private static void changeFaults(String start) {
         String[][] faults = {
             {"shift", "5"}, {"shift ", "6"}, {"shift -", "7"}, {"shift --5", "7"}, {"shift  5", "6"}, {"shift5", "5"},
             {"shift 5 ", "7"}, {"shift 1000", "9"}, {"shift -1000", "10"}, {"shift 5;", "8"}, {"shift 5;;heap", "8"},
@@ -960,7 +917,7 @@ public final class PromisesTest {
         run(32, start + "type " + eighty + "\ntold(5) 80\nchange(-1) -164\n");
     }
 
-    private static void loads() throws Exception {
+    private static void loads() {
         String[][] faults = {
             {"3", "1"}, {"3-", "2"}, {"-3", "0"}, {"3-9:", "4"}, {"3-9:-", "5"}, {"3-9:100", "6"}, {"3-9:-100", "7"},
             {"3-9:--1", "5"}, {"9-3", "2"}, {"9-3x", "2"}, {"900-1000", "4"}, {"9-1000", "5"}, {"1000-2000", "3"},
@@ -1002,7 +959,7 @@ public final class PromisesTest {
         run(33, "type " + twenty + "0\ntold(5) 80\nload() 20\ntold(0) 20\n");
     }
 
-    private static void papers() throws Exception {
+    private static void papers() {
         String three = "add(5, 9, 3) 0\nadd(0, 20, 1) 1\nadd(100, 999, -99) 2\n";
         checkPaper(three, 0, "0-20;5-9:3;100-999:-99");
         checkPaper(three, 1, "100-999:-99;0-20;5-9:3");
@@ -1041,7 +998,7 @@ public final class PromisesTest {
             """);
     }
 
-    private static void checkPaper(String script, int order, String text) throws Exception {
+    private static void checkPaper(String script, int order, String text) {
         StringBuilder all = new StringBuilder(script);
         all.append("spell(").append(order).append(") ").append(text.length()).append('\n');
         for (int k = 0; k < text.length(); k++) {
@@ -1051,7 +1008,7 @@ public final class PromisesTest {
         run(34, all.toString());
     }
 
-    private static void told() throws Exception {
+    private static void told() {
         run(36, """
             add(10, 20, 4) 0
             add(15, 20, -9) 1
@@ -1084,7 +1041,7 @@ public final class PromisesTest {
             """);
     }
 
-    private static void lists() throws Exception {
+    private static void lists() {
         run(37, """
             list(0, 3) 1
             get(0, 2) 0
@@ -1212,7 +1169,7 @@ public final class PromisesTest {
         run(41, "list(0, 2) 1\njudge(0, 0, 0) -5\njudge(0, 9, 0) -5\njudge(0, -1, 0) -5\n");
     }
 
-    private static void images() throws Exception {
+    private static void images() {
         run(42, """
             image() 0
             add(1, 9, 1) 0
