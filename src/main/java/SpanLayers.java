@@ -297,20 +297,20 @@ public final class SpanLayers {
     }
 
     public int pick() {
-        int bits = condition.readFrom(tape, index);
-        int fault = tape.empty();
+        int bits = condition.readEither(tape, index, 0);
+        int fault = tape.finish();
         return fault < 0 ? bits : FAULTS - fault;
     }
 
     public int many() {
-        int bits = condition.readFrom(tape, index);
-        int fault = tape.empty();
+        int bits = condition.readEither(tape, index, 0);
+        int fault = tape.finish();
         return fault < 0 ? Integer.bitCount(bits) : FAULTS - fault;
     }
 
     public int cull() {
-        int bits = condition.readFrom(tape, index);
-        int fault = tape.empty();
+        int bits = condition.readEither(tape, index, 0);
+        int fault = tape.finish();
         if (fault >= 0) {
             return FAULTS - fault;
         }
@@ -323,13 +323,13 @@ public final class SpanLayers {
             return BAD;
         }
         steps.readFrom(tape);
-        int fault = tape.empty();
+        int fault = tape.finish();
         return fault < 0 ? steps.changeAll(index, set) : FAULTS - fault;
     }
 
     public int load() {
         parts.readFrom(tape);
-        int fault = tape.empty();
+        int fault = tape.finish();
         return fault < 0 ? parts.bringInto(index) : FAULTS - fault;
     }
 
@@ -1023,12 +1023,19 @@ public final class SpanLayers {
             return true;
         }
 
-        /** Answers the fault of what was read since the tape was empty last, -1 where there was none. */
-        int empty() {
-            int found = fault;
+        void empty() {
             used = 0;
             at = 0;
             fault = -1;
+        }
+
+        /** Ends the reading of a text, which is at fault if it goes on: its fault, -1 where there was none. */
+        int finish() {
+            if (at < used) {
+                fail(at);
+            }
+            int found = fault;
+            empty();
             return found;
         }
 
@@ -1041,7 +1048,7 @@ public final class SpanLayers {
         }
 
         private int letter() {
-            return isBelow(at, used) && at < TAPE_SIZE ? bytes[at] : -1;
+            return at >= 0 && at < used && at < TAPE_SIZE ? bytes[at] : -1;
         }
 
         boolean skip(int letter) {
@@ -1054,12 +1061,6 @@ public final class SpanLayers {
 
         void expect(int letter) {
             if (!skip(letter)) {
-                fail(at);
-            }
-        }
-
-        void expectEnd() {
-            if (at < used) {
                 fail(at);
             }
         }
@@ -1127,14 +1128,11 @@ public final class SpanLayers {
         }
     }
 
-    /** Reads a condition and answers at once, part by part, the spans (bits) for which it holds. */
+    /**
+     * Reads a condition and answers at once, part by part, the spans (bits) for which it holds.
+     * The number of open brackets keeps the depth low at which its methods call one another.
+     */
     private static final class Condition {
-        int readFrom(Tape tape, Index index) {
-            int bits = readEither(tape, index, 0);
-            tape.expectEnd();
-            return bits;
-        }
-
         private int readEither(Tape tape, Index index, int brackets) {
             int bits = readBoth(tape, index, brackets);
             for (int k = 0; k < TAPE_SIZE && tape.skip('|'); k++) {
@@ -1152,19 +1150,15 @@ public final class SpanLayers {
         }
 
         private int readFactor(Tape tape, Index index, int brackets) {
-            if (tape.skip('!')) {
-                return index.allBits() & ~readPlain(tape, index, brackets);
-            }
-            return readPlain(tape, index, brackets);
-        }
-
-        private int readPlain(Tape tape, Index index, int brackets) {
+            boolean isTurned = tape.skip('!');
+            int bits;
             if (brackets < BRACKETS && tape.skip('(')) {
-                int bits = readEither(tape, index, brackets + 1);
+                bits = readEither(tape, index, brackets + 1);
                 tape.expect(')');
-                return bits;
+            } else {
+                bits = readTest(tape, index);
             }
-            return readTest(tape, index);
+            return isTurned ? index.allBits() & ~bits : bits;
         }
 
         private static int readTest(Tape tape, Index index) {
@@ -1188,7 +1182,9 @@ public final class SpanLayers {
             if (tape.skip('>')) {
                 return '>';
             }
-            tape.expect('=');
+            if (!tape.skip('=')) {
+                tape.fail(tape.at);
+            }
             return '=';
         }
 
@@ -1216,7 +1212,6 @@ public final class SpanLayers {
                 count++;
                 isMore = count < STEPS && tape.skip(';');
             }
-            tape.expectEnd();
         }
 
         private void readStep(Tape tape, int k) {
@@ -1320,7 +1315,6 @@ public final class SpanLayers {
             if (isMore) {
                 tape.fail(tape.at);
             }
-            tape.expectEnd();
         }
 
         int bringInto(Index index) {

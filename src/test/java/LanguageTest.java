@@ -5,8 +5,11 @@ import java.lang.reflect.Modifier;
 import java.nio.file.Files;
 import java.nio.file.Path;
 import java.util.ArrayList;
+import java.util.Arrays;
 import java.util.List;
+import java.util.Map;
 import java.util.Set;
+import java.util.TreeMap;
 import java.util.TreeSet;
 import java.util.regex.Matcher;
 import java.util.regex.Pattern;
@@ -29,7 +32,7 @@ public final class LanguageTest {
         for (String one : FORBIDDEN) due(!Pattern.compile(one).matcher(bare).find(), "no " + one);
         due(source.chars().allMatch(c -> c == '\n' || c >= 32 && c < 127), "plain signs alone");
         checkLibrary(bare);
-        checkLengths(bare);
+        checkMethods(bare.split("\n"));
         checkFace(Files.readString(root.resolve("../shared/DOC.md")));
         checkClasses();
         System.out.println(wrong == 0 ? "all rules are kept" : wrong + " rules are not kept");
@@ -54,19 +57,32 @@ public final class LanguageTest {
         while (made.find()) due(Set.of("Cursor", "Row", "Span").contains(made.group(1)), "made by a call: " + made.group());
     }
 
-    private static void checkLengths(String bare) {
-        List<Integer> starts = new ArrayList<>();
-        String[] lines = bare.split("\n");
-        for (int k = 0; k < lines.length; k++) {
-            if (lines[k].matches("( {4}| {8})(\\w[\\w\\[\\] ]* )?\\w+\\(.*\\) \\{")) starts.add(k);
-        }
-        due(starts.size() > 100, "methods are found");
-        for (int start : starts) {
-            String end = lines[start].replaceAll("\\S.*", "") + "}";
+    private static void checkMethods(String[] lines) {
+        Map<String, String> bodies = new TreeMap<>();
+        Pattern head = Pattern.compile("( {4}| {8})(?:\\w[\\w\\[\\] ]* )?(\\w+)\\(.*\\) \\{");
+        for (int start = 0; start < lines.length; start++) {
+            Matcher m = head.matcher(lines[start]);
+            if (!m.matches()) continue;
             int last = start;
-            while (last < lines.length && !lines[last].equals(end)) last++;
+            while (last < lines.length && !lines[last].equals(m.group(1) + "}")) last++;
             due(last - start < 60, "sixty lines: " + lines[start].strip());
+            bodies.merge(m.group(2), String.join(" ", Arrays.copyOfRange(lines, start + 1, last)), String::concat);
         }
+        due(bodies.size() > 100, "methods are found");
+        for (String name : bodies.keySet()) checkDepth(name, bodies, new ArrayList<>());
+    }
+
+    /** Methods of one name are taken for one, and a call of what is open already for a recursion. */
+    private static void checkDepth(String name, Map<String, String> bodies, List<String> open) {
+        open.add(name);
+        due(open.size() <= 8, "calls eight deep: " + open);
+        Matcher call = Pattern.compile("\\b(\\w+)\\(").matcher(bodies.get(name));
+        Set<String> called = new TreeSet<>();
+        while (call.find()) called.add(call.group(1));
+        for (String one : called) {
+            if (bodies.containsKey(one) && !open.contains(one) && open.size() <= 8) checkDepth(one, bodies, open);
+        }
+        open.remove(open.size() - 1);
     }
 
     private static void checkFace(String doc) {
